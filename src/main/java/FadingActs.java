@@ -898,11 +898,14 @@ public final class FadingActs {
             faultAt = NONE;
             tape.rewind();
             boolean goesOn = clause();
-            while (goesOn && clauses <= Text.MOST_CLAUSES && tape.isSign(';')) {
+            for (int i = 0; i < Text.MOST_CLAUSES && goesOn && tape.isSign(';'); i++) {
                 tape.advance();
                 goesOn = clause();
             }
-            if (!goesOn || !tape.isAtEnd() && !halt()) {
+            if (goesOn && !tape.isAtEnd()) {
+                goesOn = halt();
+            }
+            if (!goesOn) {
                 return null;
             }
             int[] ownHeads = Arrays.copyOf(heads, clauses * Text.HEAD);
@@ -988,7 +991,7 @@ public final class FadingActs {
 
         private boolean test(int depth) {
             boolean goesOn = both(depth);
-            while (goesOn && steps < code.length && tape.isWord("or")) {
+            for (int i = 0; i < Tape.ROOM && goesOn && tape.isWord("or"); i++) {
                 int jump = step(Text.OR, 0);
                 tape.advance();
                 goesOn = both(depth);
@@ -999,7 +1002,7 @@ public final class FadingActs {
 
         private boolean both(int depth) {
             boolean goesOn = plain(depth);
-            while (goesOn && steps < code.length && tape.isWord("and")) {
+            for (int i = 0; i < Tape.ROOM && goesOn && tape.isWord("and"); i++) {
                 int jump = step(Text.AND, 0);
                 tape.advance();
                 goesOn = plain(depth);
@@ -1052,8 +1055,11 @@ public final class FadingActs {
 
         private boolean sum(int depth) {
             boolean goesOn = product(depth);
-            while (goesOn && steps < code.length && (tape.isSign('+') || tape.isSign('-'))) {
+            for (int i = 0; i < Tape.ROOM && goesOn; i++) {
                 int kind = tape.isSign('+') ? Text.PLUS : Text.LESS;
+                if (kind == Text.LESS && !tape.isSign('-')) {
+                    return true;
+                }
                 tape.advance();
                 goesOn = product(depth);
                 step(kind, 0);
@@ -1063,12 +1069,14 @@ public final class FadingActs {
 
         private boolean product(int depth) {
             boolean goesOn = part(depth);
-            int kind = productSign();
-            while (goesOn && steps < code.length && kind != NONE) {
+            for (int i = 0; i < Tape.ROOM && goesOn; i++) {
+                int kind = productSign();
+                if (kind == NONE) {
+                    return true;
+                }
                 tape.advance();
                 goesOn = part(depth);
                 step(kind, 0);
-                kind = productSign();
             }
             return goesOn;
         }
