@@ -10,11 +10,14 @@ public final class FuzzTest {
     private final PlainActs p = new PlainActs();
     private final Random r;
     private final int run;
+    // In a mild run most readings can be, so that what is on paper has more to weigh.
+    private final boolean mild;
     private final StringBuilder story = new StringBuilder();
     private boolean good = true;
 
     private FuzzTest(int run) {
         this.run = run;
+        this.mild = run % 3 == 0;
         this.r = new Random(run * 7919L + 13);
     }
 
@@ -65,12 +68,12 @@ public final class FuzzTest {
     }
 
     private void act() {
-        int a = chance(60) ? in(1, 25) : about(1, 60), b = chance(60) ? in(1, 6) : about(1, 30), c = about(1, 63);
+        int a = chance(mild ? 95 : 60) ? in(1, 25) : about(1, 60), b = chance(60) ? in(1, 6) : about(1, 30), c = about(1, 63);
         due("act(" + a + ", " + b + ", " + c + ")", x.act(a, b, c), p.act(a, b, c));
     }
 
     private void reader() {
-        int a = about(1, 99), b = about(0, 5);
+        int a = about(mild ? 50 : 1, 99), b = about(0, 5);
         due("reader(" + a + ", " + b + ")", x.reader(a, b), p.reader(a, b));
     }
 
@@ -110,7 +113,7 @@ public final class FuzzTest {
                 due("gainsay(" + a + ", " + b + ", " + c + ")", x.gainsay(a, b, c), p.gainsay(a, b, c));
             }
             case 5 -> {
-                int a = about(0, 6), b = about(0, 63);
+                int a = about(0, 6), b = mild && chance(80) ? 63 : about(0, 63);
                 due("listen(" + a + ", " + b + ")", x.listen(a, b), p.listen(a, b));
             }
             case 6 -> {
@@ -161,7 +164,7 @@ public final class FuzzTest {
         due("count(5)", x.count(5), p.count(5));
         if (law) {
             due("law()", x.law(), p.law());
-            if (chance(60)) {
+            if (chance(mild ? 10 : 60)) {
                 int n = p.s.laws.size() - 1;
                 due("force(" + n + ")", x.force(n), p.force(n));
             }

@@ -232,6 +232,7 @@ public final class PromisesTest {
         be("10: still 400", x.count(5), 400);
         be("11: 381", x.end(381), 381);
         be("10: 401", x.feed(0, 0, 0, 0, 0), -1);
+        be("11: all that it has", x.end(381), 381);
         be("11: 380", x.end(380), 380);
         be("10: 400", x.feed(0, 0, 0, 0, 0), 400);
         be("11: none", x.end(0), 0);
@@ -562,6 +563,8 @@ public final class PromisesTest {
         test("1=1 or 1=1 and 1=2", 1);
         test("(1=1 or 1=1) and 1=2", 0);
         test("not 1=1 or 1=1", 1);
+        test("not 1=1 and 1=1", 0);
+        test("not 1=2 and 1=1", 1);
         test("not (1=1 or 1=1)", 0);
         test("1=1 or 1/0=1", 1);
         test("1=2 and 1/0=1 or 1=1", 1);
@@ -663,6 +666,9 @@ public final class PromisesTest {
         Due.force(x, "lasts mood");
         x.terms(3, 3);
         be("III: by the mood", x.held(2), 3);
+        x.terms(3, 2);
+        be("III: by another mood", x.held(2), 2);
+        x.terms(3, 3);
         be("III: by the mood", x.held(3), 2);
         x.read(0, 0);
         be("III: the latest alone", x.held(4), 0);
@@ -760,6 +766,13 @@ public final class PromisesTest {
         x = Due.market();
         x.terms(0, 999);
         be("26: behind 999", x.mornings(7, 0, 0, 3, -1), 3);
+        x = new FadingActs();
+        for (int i = 0; i < 5; i++) x.act(1, 9, 1);
+        for (int i = 0; i < 4; i++) x.put(i, 3, i + 1);
+        x.reader(9, 0);
+        be("26: a chain of five", x.mornings(1, 0, 0, 5, -1), 5);
+        for (int i = 0; i < 5; i++) be("26: its row", x.mornings(1, 0, 0, 5, i), 4 - i);
+        be("26: not in four", x.mornings(1, 0, 0, 4, -1), -1);
         x = full();
         be("26: of a day's term none holds behind them", x.mornings(1, 0, 0, 2, -1), -1);
         x.put(0, 1, 2);
@@ -841,6 +854,16 @@ public final class PromisesTest {
         FadingActs y = new FadingActs();
         y.act(1, 1, 1);
         be("28: no reader", y.dead(), 1);
+        y.reader(1, 0);
+        for (int w = 0; w < 7; w++) {
+            for (int v = 0; v < 7; v++) y.listen(v, v == w ? 1 : 0);
+            be("28: weekday " + w + " is enough", y.dead(), 0);
+        }
+        for (int i = 1; i < 8; i++) y.act(1, 1, 1);
+        for (int i = 0; i < 7; i++) y.put(i, 3, i + 1);
+        be("28: a chain of eight", y.dead(), 0);
+        y.put(7, 0, 2);
+        be("28: and its end", y.dead(), 255);
     }
 
     private static void throats() {
@@ -872,6 +895,16 @@ public final class PromisesTest {
         FadingActs y = new FadingActs();
         y.act(1, 1, 1);
         be("29: no reader", y.throats(1, 0), -1);
+        for (int i = 1; i < 4; i++) y.act(20, 1, 1);
+        y.put(0, 0, 20);
+        for (int i = 0; i < 4; i++) y.reader(i == 3 ? 99 : 20, 0);
+        be("29: one has voice for all", y.throats(15, 1), 8);
+        Due.force(y, "bars if reader = 3 and act < 3");
+        be("29: all four", y.throats(15, 1), 15);
+        be("29: all four", y.throats(15, 0), 4);
+        be("29: a voice just enough", y.throats(1, 1), 1);
+        Due.force(y, "bars if reader = 3; takes 21");
+        be("29: barred from the loudest", y.throats(1, 1), -1);
     }
 
     private static void days() {
@@ -916,6 +949,9 @@ public final class PromisesTest {
         x.await();
         be("31: the one ahead counts", x.likely(2, 0, 0), all);
         be("31: the one ahead counts", x.likely(2, 0, 1), 910000000000L);
+        x.read(2, 0);
+        be("31: this day's aside, again", x.likely(2, 0, 1), 910000000000L);
+        x.undo();
         x.await();
         be("31: no more", x.likely(2, 0, 0), 700000000000L);
         x.terms(1, 10);
@@ -933,9 +969,35 @@ public final class PromisesTest {
         Due.force(x, "bars if act = 1");
         be("31: barred", x.likely(1, 0, 0), 0);
         cutParts();
+        longParts();
         for (int[] b : new int[][] {{3, 0, 0}, {-1, 0, 0}, {0, 2, 0}, {0, -1, 0}, {0, 0, -1}, {0, 0, 61}}) {
             be("31: none", x.likely(b[0], b[1], b[2]), -1);
         }
+    }
+
+    private static void longParts() {
+        FadingActs x = new FadingActs();
+        x.act(30, 1, 1);
+        x.reader(30, 0);
+        x.terms(1, 10);
+        Due.force(x, "lasts 99");
+        x.read(0, 0);
+        x.await();
+        be("31: 98 days left", x.likely(0, 0, 60), 1000000000000L);
+        x.terms(0, 38);
+        be("31: 61 days left", x.likely(0, 0, 60), 1000000000000L);
+        x.terms(0, 39);
+        be("31: 60 days left", x.likely(0, 0, 60), 0);
+        be("31: 60 days left", x.likely(0, 0, 59), 1000000000000L);
+        x.terms(1, 0);
+        be("31: 99 days", x.likely(0, 0, 60), 1000000000000L);
+        Due.force(x, "lasts 99; bars if weekday < 6");
+        x.undo();
+        be("31: a reading of 99 days on weekday 6 alone", x.likely(0, 0, 0), 0);
+        x.terms(0, 41);
+        be("31: holds on", x.likely(0, 0, 60), 1000000000000L);
+        x.terms(0, 993);
+        be("31: behind 999", x.likely(0, 0, 60), 1000000000000L * (993 % 7 == 6 ? 1 : 0));
     }
 
     /** An act of a day's term must be read every day: 7 tenths of what was, cut each time. */
@@ -1047,20 +1109,21 @@ public final class PromisesTest {
         FadingActs y = Due.market();
         // Draws of seed 0: 12345 628841 632539 ..: no rain, act 628841 % 3 = 2, reader 632539 % 2 = 1, whose voice is 25.
         be("36: by draws", y.years(0, 1), 0);
-        byDraws();
+        for (int rain = 0; rain <= 10; rain++) byDraws(4711 + rain, rain);
         be("36: the log has room", full().years(3, 60), 60);
     }
 
-    private static void byDraws() {
+    private static void byDraws(int seed, int rain) {
         FadingActs x = Due.market();
-        long s = 4711;
+        x.terms(1, rain);
+        long s = seed;
         int[] often = new int[3];
         int[] held = new int[3];
         int[] until = new int[3];
         int all = 0;
         for (int d = 0; d < 30; d++) {
             s = (s * 1103 + 12345) % 1000003;
-            boolean rains = s % 10 < 3;
+            boolean rains = s % 10 < rain;
             s = (s * 1103 + 12345) % 1000003;
             int act = (int) (s % 3);
             s = (s * 1103 + 12345) % 1000003;
@@ -1073,7 +1136,7 @@ public final class PromisesTest {
             }
             for (int a = 0; a < 3; a++) if (d < until[a]) held[a]++;
         }
-        be("36: thirty days", x.years(4711, 30), all);
+        be("36: thirty days", x.years(seed, 30), all);
         for (int a = 0; a < 3; a++) {
             be("37: how often", x.drawn(a, 0), often[a]);
             be("37: on how many days", x.drawn(a, 1), held[a]);
@@ -1132,11 +1195,53 @@ public final class PromisesTest {
         be("39: its acts", x.count(0), 4);
         be("39: images stay", x.back(0) + x.back(1) + x.back(0), 0);
         be("39: as it was", x.count(0), 3);
+        rowsComeBack();
         x.undo();
         be("38: kept anew", x.image(0), 0);
         x.back(1);
         x.back(0);
         be("39: the newer", x.count(2), 0);
+    }
+
+    /** What was written over in the meantime is as it was, too. */
+    private static void rowsComeBack() {
+        FadingActs x = new FadingActs();
+        x.image(1);
+        x.act(10, 9, 1);
+        x.act(10, 9, 2);
+        x.reader(40, 3);
+        x.reader(30, 4);
+        x.read(1, 1);
+        x.await();
+        x.read(0, 0);
+        x.fine(0, 1, 1, 1);
+        x.fine(7, 0, 0, 1);
+        Due.force(x, "takes 3");
+        x.image(0);
+        x.back(1);
+        be("39: nothing", x.count(0) + x.count(1) + x.count(2) + x.count(3) + x.count(4), 0);
+        x.act(20, 2, 4);
+        x.act(20, 2, 8);
+        x.reader(50, 1);
+        x.reader(60, 2);
+        x.terms(0, 3);
+        x.read(0, 1);
+        x.read(1, 0);
+        x.fine(5, 5, 0, 1);
+        x.fine(6, 4, 1, 0);
+        Due.force(x, "takes 4");
+        x.back(0);
+        int[] log = {1, 1, 0, 9, 0, 0, 1, 9};
+        for (int i = 0; i < 8; i++) be("39: log", x.log(i / 4, i % 4), log[i]);
+        be("39: voices", x.throat(0, 0) * 100 + x.throat(1, 0), 4030);
+        be("39: classes", x.throat(0, 1) * 100 + x.throat(1, 1), 304);
+        be("39: fines", x.judge(), 1);
+        x.undo();
+        be("39: fines", x.judge(), 0);
+        be("39: fines", x.unwritten(0), 0);
+        x.undo();
+        be("39: fines", x.unwritten(-1), 0);
+        be("39: the first law", x.asks(0, 0, 1), 3);
     }
 
     private static void count() {
