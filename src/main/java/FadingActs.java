@@ -72,13 +72,11 @@ public final class FadingActs {
     }
 
     public int put(int act, int what, int value) {
+        boolean canBe = what == NEEDS ? Realm.canBeNeed(act, value) : Realm.canBeTrait(what, value);
+        if (!canBe) {
+            return refused(WRONG_NUMBER);
+        }
         boolean isNeed = what == NEEDS && value != NONE;
-        if (what < 0 || what >= TRAITS || isNeed && value == act) {
-            return refused(WRONG_NUMBER);
-        }
-        if (what != NEEDS && !Realm.canBeTrait(what, value)) {
-            return refused(WRONG_NUMBER);
-        }
         if (!realm.isAct(act) || isNeed && !realm.isAct(value)) {
             return refused(NO_SUCH);
         }
@@ -544,6 +542,11 @@ public final class FadingActs {
                 return false;
             }
             return value >= LOWEST_TRAIT[what] && value <= HIGHEST_TRAIT[what];
+        }
+
+        /** Beyond the acts there is no such act, which is refused later; below NONE it is no act's number at all. */
+        static boolean canBeNeed(int act, int needs) {
+            return needs == NONE || needs > NONE && needs != act;
         }
 
         static boolean canBeAct(int length, int term, int binds) {

@@ -105,7 +105,7 @@ public final class FuzzTest {
             case 1 -> reader();
             case 2, 3 -> {
                 int a = anAct(), b = about(0, 3);
-                int c = b == 0 ? about(1, 60) : b == 1 ? about(1, 30) : b == 2 ? about(1, 63) : chance(30) ? -1 : anAct();
+                int c = b == 0 ? about(1, 60) : b == 1 ? about(1, 30) : b == 2 ? about(1, 63) : chance(30) ? -1 : chance(90) ? anAct() : about(-3, 9);
                 due("put(" + a + ", " + b + ", " + c + ")", x.put(a, b, c), p.put(a, b, c));
             }
             case 4 -> {
