@@ -544,9 +544,12 @@ public final class FadingActs {
             return value >= LOWEST_TRAIT[what] && value <= HIGHEST_TRAIT[what];
         }
 
-        /** Beyond the acts there is no such act, which is refused later; below NONE it is no act's number at all. */
+        /**
+         * Beyond the acts there is no such act, which is refused later; below NONE it is no act's number at all.
+         * Itself can't be whatever the number is, so NONE of an act NONE can't be either.
+         */
         static boolean canBeNeed(int act, int needs) {
-            return needs == NONE || needs > NONE && needs != act;
+            return needs >= NONE && needs != act;
         }
 
         static boolean canBeAct(int length, int term, int binds) {

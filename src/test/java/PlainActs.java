@@ -202,7 +202,8 @@ final class PlainActs {
             if (what == 0) only(in(1, value, 60), -1);
             if (what == 1) only(in(1, value, 30), -1);
             if (what == 2) only(in(1, value, 63), -1);
-            if (what == 3) only(value == NONE || value >= 0 && value != act, -1);
+            if (what == 3) only(value != act, -1);
+            if (what == 3) only(value >= NONE, -1);
             only(isAct(act), -2);
             if (what == 3) only(value == NONE || isAct(value), -2);
             int was = of(act, what);

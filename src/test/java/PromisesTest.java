@@ -102,13 +102,14 @@ public final class PromisesTest {
         be("3: needs none", x.put(0, 3, -1), 2);
         be("3: needs is", x.of(0, 3), -1);
         int[][] bad = {{0, 4, 1}, {0, -1, 1}, {0, 0, 0}, {0, 0, 61}, {0, 1, 0}, {0, 1, 31}, {0, 2, 0}, {0, 2, 64}, {1, 3, 1}, {9, 0, 0}, {9, 3, 9},
-            {0, 3, -2}, {0, 3, -3}, {0, 3, MIN}, {9, 3, -2}, {-1, 3, -2}, {-2, 3, -2}};
+            {0, 3, -2}, {0, 3, -3}, {0, 3, MIN}, {9, 3, -2}, {-1, 3, -2}, {-2, 3, -2}, {-1, 3, -1}, {MAX, 3, MAX}, {3, 3, 3}};
         for (int[] b : bad) be("3: can't be", x.put(b[0], b[1], b[2]), -1);
-        int[][] none = {{3, 0, 1}, {-1, 0, 1}, {0, 3, 3}, {0, 3, 7}, {0, 3, 8}, {0, 3, MAX}, {9, 3, 8}, {9, 3, 0}, {9, 3, -1}, {MAX, 1, 1}, {-1, 3, -1}};
+        int[][] none = {{3, 0, 1}, {-1, 0, 1}, {0, 3, 3}, {0, 3, 7}, {0, 3, 8}, {0, 3, MAX}, {9, 3, 8}, {9, 3, 0}, {9, 3, -1}, {MAX, 1, 1}, {-2, 3, -1}, {-1, 3, 0}, {-1, 3, 8}, {3, 3, -1}};
         for (int[] b : none) be("3: no such", x.put(b[0], b[1], b[2]), -2);
         be("3: nothing changed", x.of(0, 0), 60);
         be("3: needs is as it was", x.of(0, 3), -1);
         putNeedsBelowNone();
+        putNeedsItselfNone();
     }
 
     /** On a new object there is no act either, but that would be refused behind it. */
@@ -120,6 +121,22 @@ public final class PromisesTest {
         be("3: not counted as -2", x.count(7), 0);
         be("3: NONE can be", x.put(0, 3, -1), -2);
         be("3: counted as -2", x.count(7), 1);
+    }
+
+    /** The value is the act's own number, even where that number is NONE. */
+    private static void putNeedsItselfNone() {
+        FadingActs x = new FadingActs();
+        be("3: itself ahead of no such", x.put(-1, 3, -1), -1);
+        be("3: told by status", x.status(), -1);
+        be("3: counted as -1", x.count(6), 1);
+        be("3: not counted as -2", x.count(7), 0);
+        be("3: NONE of another that is not there", x.put(-2, 3, -1), -2);
+        x.act(1, 1, 1);
+        be("3: no act came between", x.put(-1, 3, -1), -1);
+        be("3: NONE of one that is there", x.put(0, 3, -1), -1);
+        be("3: which is what it was", x.status(), 0);
+        be("3: twice by -1", x.count(6), 2);
+        be("3: once by -2", x.count(7), 1);
     }
 
     private static void of() {
