@@ -829,7 +829,14 @@ public final class FadingActs {
             for (int at = heads[clause * HEAD + section]; at < to; at++) {
                 int step = code[at] & (1 << STEP_BITS) - 1;
                 int operand = code[at] >> STEP_BITS;
-                if (step == NUMBER || step == WORD) {
+                int asked = step == NUMBER || step == WORD ? 0 : step <= OR ? 1 : 2;
+                boolean isWordThere = step != WORD || operand < words.length;
+                // No text of the parser's lacks what its steps ask for; an index is looked at all the same.
+                int most = asked == 0 ? stack.length - 1 : stack.length;
+                if (depth < asked || depth > most || !isWordThere) {
+                    return BROKEN;
+                }
+                if (asked == 0) {
                     stack[depth] = step == NUMBER ? operand : words[operand];
                     depth++;
                 } else if (step == NOT) {
@@ -837,7 +844,7 @@ public final class FadingActs {
                 } else if (step == AND || step == OR) {
                     // The operand is where the part behind ends: it is asked only if it can matter.
                     if (stack[depth - 1] == (step == OR ? 1 : 0)) {
-                        at = operand - 1;
+                        at = Math.max(at, operand - 1);
                     } else {
                         depth--;
                     }
@@ -1141,7 +1148,9 @@ public final class FadingActs {
         }
 
         private void land(int jump) {
-            code[jump] = steps << Text.STEP_BITS | code[jump] & (1 << Text.STEP_BITS) - 1;
+            if (jump >= 0 && jump < steps) {
+                code[jump] = steps << Text.STEP_BITS | code[jump] & (1 << Text.STEP_BITS) - 1;
+            }
         }
     }
 

@@ -14,6 +14,8 @@ public final class FuzzTest {
     private final boolean mild;
     private final StringBuilder story = new StringBuilder();
     private boolean good = true;
+    // Of an object nothing is promised behind its 512th call; a step makes some thirty at most.
+    private int made = 0;
 
     private FuzzTest(int run) {
         this.run = run;
@@ -22,7 +24,7 @@ public final class FuzzTest {
     }
 
     public static void main(String[] args) {
-        int runs = args.length > 0 ? Integer.parseInt(args[0]) : 1500;
+        int runs = args.length > 0 ? Integer.parseInt(args[0]) : 2500;
         int first = args.length > 1 ? Integer.parseInt(args[1]) : 0;
         for (int run = first; run < first + runs && wrong < 5; run++) new FuzzTest(run).go();
         System.out.println(calls + " calls, " + (wrong == 0 ? "all answers are as due" : wrong + " runs went wrong"));
@@ -31,6 +33,7 @@ public final class FuzzTest {
 
     private void due(String call, long got, long want) {
         calls++;
+        made++;
         if (!good) return;
         story.append(call).append(" -> ").append(want).append('\n');
         if (got != want) {
@@ -64,7 +67,7 @@ public final class FuzzTest {
         for (int i = in(1, 5); i > 0; i--) act();
         for (int i = in(1, 3); i > 0; i--) reader();
         int n = in(20, 400);
-        for (int i = 0; i < n && good; i++) step();
+        for (int i = 0; i < n && good && made < 480; i++) step();
     }
 
     private void act() {
