@@ -844,7 +844,7 @@ public final class FadingActs {
                 } else if (step == AND || step == OR) {
                     // The operand is where the part behind ends: it is asked only if it can matter.
                     if (stack[depth - 1] == (step == OR ? 1 : 0)) {
-                        at = Math.max(at, operand - 1);
+                        at = operand > at ? operand - 1 : at;
                     } else {
                         depth--;
                     }
@@ -1768,7 +1768,7 @@ public final class FadingActs {
                 read += parts[i] * (TENTHS - wet) / TENTHS;
                 parts[i] = parts[i] * wet / TENTHS;
             }
-            parts[court.lasts(act, reader, day)] += read;
+            parts[Math.min(LONGEST, court.lasts(act, reader, day))] += read;
         }
 
         private void lookAtFines() {
