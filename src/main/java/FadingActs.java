@@ -1622,7 +1622,7 @@ public final class FadingActs {
                 boolean isBarred = court.bars(toldActs[i], reader, today);
                 int takes = isBarred ? TOO_DEAR : court.takes(toldActs[i], reader, today);
                 cost[i * MOST_READERS + reader] = takes;
-                has |= takes <= realm.voices[reader];
+                has = has || takes <= realm.voices[reader];
             }
             return has;
         }

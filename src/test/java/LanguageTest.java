@@ -28,6 +28,7 @@ public final class LanguageTest {
         Matcher imports = Pattern.compile("import ([\\w.]+);").matcher(code);
         while (imports.find()) Due.be(imports.group(), imports.group(1).equals("java.util.Arrays") ? 1 : 0, 1);
         library(code);
+        booleans(code);
         lengths(source.lines().toList());
         Due.close();
     }
@@ -36,6 +37,12 @@ public final class LanguageTest {
         Matcher m = Pattern.compile("\\b(Arrays|Math|Integer|Long|System|String|Character)\\.(\\w+)").matcher(code);
         List<String> allowed = List.of("Arrays.fill", "Arrays.copyOf", "Math.min", "Math.max", "Integer.bitCount", "System.arraycopy");
         while (m.find()) Due.be(m.group(), allowed.contains(m.group()) ? 1 : 0, 1);
+    }
+
+    /** Rule 10 has && and || for booleans; | and & are for numbers. */
+    private static void booleans(String code) {
+        Matcher m = Pattern.compile("\\bboolean (\\w+)\\b").matcher(code);
+        while (m.find()) Due.be(m.group(1) + " |=", Pattern.compile("\\b" + m.group(1) + " [|&^]=").matcher(code).find() ? 1 : 0, 0);
     }
 
     /** A method of ours begins and ends at an indent of 4 or 8. */
